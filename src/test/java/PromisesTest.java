@@ -1,41 +1,5 @@
 /** Each promise of the document by hand: ordinary inputs, the edges it names, and wrong inputs. */
-public final class PromisesTest {
-    private static final int NONE = -1, UNKNOWN = -101, OUTSIDE = -102, STATE = -103, FULL = -104;
-    private static final int LOW = Integer.MIN_VALUE, HIGH = Integer.MAX_VALUE;
-    private static int wrong = 0, asked = 0;
-
-    private static void due(int promise, String what, long got, long want) {
-        asked++;
-        if (got == want) return;
-        wrong++;
-        System.out.println("promise " + promise + ": " + what + " answered " + got + ", due is " + want);
-    }
-
-    private static long packed(String s) {
-        long w = 0;
-        for (int i = s.length() - 1; i >= 0; i--) w = w << 8 | s.charAt(i);
-        return w;
-    }
-
-    private static void write(NineBridges x, String s) {
-        for (int i = 0; i < s.length(); i += 8) x.letters(packed(s.substring(i, Math.min(s.length(), i + 8))));
-    }
-
-    private static NineBridges with(String... texts) {
-        NineBridges x = new NineBridges();
-        for (int i = 0; i < texts.length; i++) {
-            write(x, texts[i]);
-            due(5, "bridge() of " + texts[i], x.bridge(), i);
-        }
-        return x;
-    }
-
-    private static long digestOf(long... numbers) {
-        long h = 557;
-        for (long n : numbers) h = 31 * h + n;
-        return h;
-    }
-
+public final class PromisesTest extends Asking {
     private static void newObject() {
         NineBridges x = new NineBridges();
         for (int what = 0; what <= 4; what++) due(1, "count(" + what + ")", x.count(what), 0);
@@ -654,7 +618,6 @@ public final class PromisesTest {
         imageAndRestore();
         count();
         digest();
-        System.out.println(asked + " answers, " + wrong + " wrong");
-        if (wrong != 0) System.exit(1);
+        finish();
     }
 }
