@@ -17,6 +17,11 @@ public final class BoundaryWays extends Asking {
         return inFrost("~a:bcd,9/9+4");
     }
 
+    /** By PACE 5 from a to h: whoever starts by minute 58 is there in 281 less v, who starts in 59 in 465 less v (v: 5 or 6). */
+    private static NineBridges missedIn59Far(int v) {
+        return inFrost("~d:cfg,9/9+2", "~g:dfa,9/9+0", "~e:hbc,9/7+" + v);
+    }
+
     private static void soonest() {
         sentence("SOONEST; NONE. UNKNOWN: from, to; OUTSIDE.");
         NineBridges x = with(CHAIN);
@@ -66,6 +71,9 @@ public final class BoundaryWays extends Asking {
         due("a minute too little", x.last(0, 1, 100, 108, 9, 1), NONE);
         due("just enough", x.last(0, 1, 100, 109, 9, 1), 100);
         due("a minute more", x.last(0, 1, 100, 110, 9, 1), 101);
+        due("back, a minute too little", x.last(1, 0, 100, 108, 9, 1), NONE);
+        due("back, just enough", x.last(1, 0, 100, 109, 9, 1), 100);
+        due("back, a minute more", x.last(1, 0, 100, 110, 9, 1), 101);
         due("the longest way", x.last(0, 7, 0, 999, 9, 8), 936);
         due("the longest way, just", x.last(0, 7, 936, 999, 9, 8), 936);
         due("the longest way, not", x.last(0, 7, 937, 999, 9, 8), NONE);
@@ -77,6 +85,14 @@ public final class BoundaryWays extends Asking {
         due("the next ROUND is too late", turning.last(0, 1, 11, 20, 1, 1), NONE);
         due("just in it", turning.last(0, 1, 11, 21, 1, 1), 20);
         due("the end of all", turning.last(0, 1, 0, 999, 1, 1), 990);
+        // between a and b one begins in minutes 0, 10 and so on, over the others in every minute
+        NineBridges two = with("a:b,1/9+0", "=a:c,1/1+0", "=d:a,1/1+0", "=b:e,1/1+0", "=f:b,1/1+0");
+        int[][] fromAndTo = {{1, 2}, {1, 3}, {0, 4}, {0, 5}, {2, 1}, {3, 1}, {4, 0}, {5, 0}};
+        for (int[] way : fromAndTo) {
+            int onFrom = way[0] > 1 ? 1 : 0;
+            due("two, from " + way[0] + " to " + way[1] + ", by 12", two.last(way[0], way[1], 0, 12 - onFrom, 1, 1), 10 - onFrom);
+            due("two, a minute less", two.last(way[0], way[1], 0, 11 - onFrom, 1, 1), onFrom == 1 ? NONE : 0);
+        }
         sentence("LAST: the latest minute from one on, in which it can start and still be there by another one (however much later that is).");
         due("413 later", slow().last(0, 4, 25, 438, 9, 1), 132);
         due("a minute less", slow().last(0, 4, 25, 437, 9, 1), NONE);
@@ -158,16 +174,23 @@ public final class BoundaryWays extends Asking {
         due("59: minute 59 is not in it", missedIn59().worst(0, 3, 59, 1, 1), 51);
         due("60: minute 59 is", missedIn59().worst(0, 3, 60, 1, 1), 100);
         due("minute 59 itself", missedIn59().soonest(0, 3, 59, 1, 1), 159);
+        due("59: 275 later at most", missedIn59Far(6).worst(0, 7, 59, 5, 1), 275);
+        due("60: minute 59 is 400 ahead", missedIn59Far(6).worst(0, 7, 60, 5, 1), 400);
+        due("59: 276 later at most", missedIn59Far(5).worst(0, 7, 59, 5, 1), 276);
+        due("60: minute 59 is 401 ahead", missedIn59Far(5).worst(0, 7, 60, 5, 1), NONE);
         due("54 is not NONE", missedIn55().soonest(0, 7, 54, 9, 1), 384);
         due("55 is NONE", missedIn55().soonest(0, 7, 55, 9, 1), NONE);
         due("0 to 54", missedIn55().worst(0, 7, 55, 9, 1), 384);
         due("0 to 55", missedIn55().worst(0, 7, 56, 9, 1), NONE);
         due("0 to 59", missedIn55().worst(0, 7, 60, 9, 1), NONE);
         NineBridges just = inFrost("~g:dhc,9/9+9", "~b:fac,9/9+1", "~d:egh,9/8+9");
-        due("400", just.worst(5, 4, 60, 9, 1), 400);
+        due("400, from minute 0 alone", just.worst(5, 4, 1, 9, 1), 400);
+        due("400 down to 341", just.worst(5, 4, 60, 9, 1), 400);
         just.offset(2, 8);
         due("there in minute 401", just.soonest(5, 4, 1, 9, 1), 401);
-        due("401, from minute 0", just.worst(5, 4, 1, 9, 1), NONE);
+        due("401, from minute 0 alone", just.worst(5, 4, 1, 9, 1), NONE);
+        due("401 and 400", just.worst(5, 4, 2, 9, 1), NONE);
+        due("401 down to 342", just.worst(5, 4, 60, 9, 1), NONE);
     }
 
     private static void mean() {
@@ -192,9 +215,20 @@ public final class BoundaryWays extends Asking {
         // 51 down to 1, then 1 eight times more: 1334; with the one of minute 59 1434
         meanIs("59 starts", y.mean(0, 3, 59, 1, 1, 0), y.mean(0, 3, 59, 1, 1, 1), 1334, 59);
         meanIs("60 starts", y.mean(0, 3, 60, 1, 1, 0), y.mean(0, 3, 60, 1, 1, 1), 239, 10);
+        NineBridges far = missedIn59Far(6), tooFar = missedIn59Far(5);
+        meanIs("275 down to 217", far.mean(0, 7, 59, 5, 1, 0), far.mean(0, 7, 59, 5, 1, 1), 246, 1);
+        meanIs("275 down to 217, and 400", far.mean(0, 7, 60, 5, 1, 0), far.mean(0, 7, 60, 5, 1, 1), 7457, 30);
+        meanIs("276 down to 218", tooFar.mean(0, 7, 59, 5, 1, 0), tooFar.mean(0, 7, 59, 5, 1, 1), 247, 1);
+        meanIs("276 down to 218, and 401", tooFar.mean(0, 7, 60, 5, 1, 0), tooFar.mean(0, 7, 60, 5, 1, 1), NONE, NONE);
         NineBridges z = missedIn55();
         meanIs("384 down to 330", z.mean(0, 7, 55, 9, 1, 0), z.mean(0, 7, 55, 9, 1, 1), 357, 1);
         meanIs("one more is NONE", z.mean(0, 7, 56, 9, 1, 0), z.mean(0, 7, 56, 9, 1, 1), NONE, NONE);
+        NineBridges just = inFrost("~g:dhc,9/9+9", "~b:fac,9/9+1", "~d:egh,9/8+9");
+        meanIs("400 alone", just.mean(5, 4, 1, 9, 1, 0), just.mean(5, 4, 1, 9, 1, 1), 400, 1);
+        meanIs("400 down to 341", just.mean(5, 4, 60, 9, 1, 0), just.mean(5, 4, 60, 9, 1, 1), 741, 2);
+        just.offset(2, 8);
+        meanIs("401 alone", just.mean(5, 4, 1, 9, 1, 0), just.mean(5, 4, 1, 9, 1, 1), NONE, NONE);
+        meanIs("401 down to 342", just.mean(5, 4, 60, 9, 1, 0), just.mean(5, 4, 60, 9, 1, 1), NONE, NONE);
     }
 
     private static void meanIs(String what, int above, int below, int wantAbove, int wantBelow) {
@@ -228,6 +262,7 @@ public final class BoundaryWays extends Asking {
         due("by another BRIDGE at once", with("=a:b,1/1+0", "a:b,1/9+9").set(1, 0, 1), 0);
         // a and b in minute 0 of 10, so b and c had best be joined v ahead of it, in minute 1
         due("the last OFFSET", with("a:b,1/9+0", "b:c,1/9+0").set(1, 0, 2), 9);
+        due("the last OFFSET, where they bear 1", with("a:b,1/9+0w1", "b:c,1/9+0w1").set(1, 0, 2), 9);
         due("the first OFFSET", with("a:b,1/9+1", "b:c,1/9+9").set(1, 0, 2), 0);
         for (int v = 0; v <= 9; v++) due("each OFFSET, " + v, with("a:b,1/9+" + (v + 1) % 10, "b:c,1/9+5").set(1, 0, 2), v);
         due("of 1 and 6 in a ROUND of 5", with("a:b,1/9+2", "b:c,1/4+0").set(1, 0, 2), 1);
