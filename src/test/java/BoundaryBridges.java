@@ -170,7 +170,7 @@ public final class BoundaryBridges extends Asking {
     }
 
     private static void about() {
-        sentence("7 its ROUND (in minutes, by FROST as it is), 10 to 12 the so-manieth END (NONE). UNKNOWN; OUTSIDE.");
+        sentence("Of a BRIDGE: what = 0 KIND, 1 PIVOT, 2 how many ENDS, 3 STAND, 4 TURN, 5 OFFSET, 6 BEARS, 7 its ROUND (in minutes, by FROST as it is), 10 to 12 the so-manieth END (NONE). UNKNOWN; OUTSIDE.");
         NineBridges x = ofEachKind();
         int[][] told = {
             {0, 2, 1, 2, 3, 4, 5, 5, 3, NONE, NONE},

@@ -287,7 +287,9 @@ public final class BoundaryNotes extends Asking {
     }
 
     private static void digest() {
-        sentence("h is 557, then for each of these numbers, in order, 31 times h, and it (as longs, wrapping)");
+        sentence("h is 557, then for each of these numbers, in order, 31 times h, and it (as longs, wrapping): of each BRIDGE what about() tells "
+            + "for 0 to 7, 10 to 12, joins() and lasts() in minutes 0, 7; AGAIN; of each ISLET SOONEST from 0 to it from minute 0 (PACE 1, WEIGHT 1), "
+            + "CUT OFF of 60 minutes from 0; of each NOTE from, minute, to, there; letters of THE PAGE; what count() tells for 0 to 4.");
         due("of nothing", new NineBridges().digest(), digestOf(1, 0, 60, -1, 60, -1, 60, -1, 60, -1, 60, -1, 60, -1, 60, -1, 60, 0, 0, 0, 0, 0));
         NineBridges x = new NineBridges();
         String[] texts = {"a:b,1/1+0", "*b:cd,2/3+4w1", "~d:efg,9/9+9w5", "=g:hab,1/9+0", "~h:a,3/1+7", "a:c,9/1+1", "*a:d,1/9+2", "=e:f,1/1+0",

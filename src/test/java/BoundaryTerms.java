@@ -80,9 +80,10 @@ public final class BoundaryTerms extends Asking {
     }
 
     private static void sign() {
-        sentence("perhaps a sign, the PIVOT (a letter), \":\", one to three ENDS");
+        sentence("Signs tell KINDS: 0 BRIDGE (no sign), 1 FROSTY (\"*\"), 2 SWINGING (\"~\"), 3 FIXED (\"=\").");
         String[] signs = {"", "*", "~", "="};
         for (int kind = 0; kind < 4; kind++) due("sign " + signs[kind], with(signs[kind] + "a:b,1/1+0").about(0, 0), kind);
+        sentence("perhaps a sign, the PIVOT (a letter), \":\", one to three ENDS");
         for (String two : new String[] {"**", "*~", "~~", "==", "=*"}) due("signs " + two, written(two + "a:b,1/1+0").fault(), 1);
         for (String other : new String[] {"+", "w", ",", ":", " ", "-", ")", "}", "<", ">"}) due("sign " + other, written(other + "a:b,1/1+0").fault(), 0);
         due("a sign behind the pivot", written("a*:b,1/1+0").fault(), 1);
@@ -180,7 +181,7 @@ public final class BoundaryTerms extends Asking {
     }
 
     private static void turns() {
-        sentence("then it turns for TURN minutes (joins nothing; twice as long of a FROSTY and a SWINGING, in FROST).");
+        sentence("In each it STANDS for STAND minutes (joins PIVOT and that END), then it turns for TURN minutes (joins nothing; twice as long of a FROSTY and a SWINGING, in FROST).");
         goes(inFrost("a:bc,2/1+0"), 0, "bb.cc.");
         goes(inFrost("*a:bc,2/1+0"), 0, "bb..cc..");
         goes(inFrost("*a:b,1/9+0"), 0, "b..................");
@@ -228,6 +229,25 @@ public final class BoundaryTerms extends Asking {
         }
         sentence("FROST is, or it is not (at first).");
         due("at first", new NineBridges().count(1), 0);
+    }
+
+    private static void carrier() {
+        sentence("A CARRIER has PACE (1 to 9 minutes) and WEIGHT (1 to 9)");
+        NineBridges x = with("=a:b,1/1+0");
+        range(x, "soonest, PACE", 1, 9, OUTSIDE, v -> x.soonest(0, 1, 0, v, 9));
+        range(x, "soonest, WEIGHT", 1, 9, OUTSIDE, v -> x.soonest(0, 1, 0, 9, v));
+        range(x, "last, PACE", 1, 9, OUTSIDE, v -> x.last(0, 1, 0, 9, v, 9));
+        range(x, "last, WEIGHT", 1, 9, OUTSIDE, v -> x.last(0, 1, 0, 9, 9, v));
+        range(x, "worst, PACE", 1, 9, OUTSIDE, v -> x.worst(0, 1, 60, v, 9));
+        range(x, "worst, WEIGHT", 1, 9, OUTSIDE, v -> x.worst(0, 1, 60, 9, v));
+        range(x, "mean, PACE", 1, 9, OUTSIDE, v -> x.mean(0, 1, 60, v, 9, 1));
+        range(x, "mean, WEIGHT", 1, 9, OUTSIDE, v -> x.mean(0, 1, 60, 9, v, 1));
+        range(x, "crowd, PACE", 1, 9, OUTSIDE, v -> x.crowd(0, 1, 0, 60, v, 9));
+        range(x, "crowd, WEIGHT", 1, 9, OUTSIDE, v -> x.crowd(0, 1, 0, 60, 9, v));
+        range(x, "meeting, PACE", 1, 9, OUTSIDE, v -> x.meeting(0, 1, 0, v, 9, 1));
+        range(x, "meeting, WEIGHT", 1, 9, OUTSIDE, v -> x.meeting(0, 1, 0, 9, v, 1));
+        range(x, "worth, PACE", 1, 9, OUTSIDE, v -> x.worth(0, v, 9));
+        range(x, "worth, WEIGHT", 1, 9, OUTSIDE, v -> x.worth(0, 9, v));
     }
 
     private static void pace() {
@@ -281,6 +301,7 @@ public final class BoundaryTerms extends Asking {
         turns();
         offsets();
         fixed();
+        carrier();
         pace();
         weight();
         finish();

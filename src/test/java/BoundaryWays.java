@@ -123,11 +123,12 @@ public final class BoundaryWays extends Asking {
     }
 
     private static void cut() {
-        sentence("CUT OFF: in how many of the minutes from one on, so many (1 to 400), no BRIDGE joins an ISLET.");
+        sentence("CUT OFF. UNKNOWN; OUTSIDE: minute, many.");
         NineBridges x = with("a:b,1/1+0w1");
         range(x, "islet", 0, 7, UNKNOWN, i -> x.cut(i, 0, 1));
         range(x, "minute", 0, 999, OUTSIDE, t -> x.cut(0, t, 1));
         range(x, "many", 1, 400, OUTSIDE, many -> x.cut(0, 0, many));
+        sentence("CUT OFF: in how many of the minutes from one on, so many (1 to 400), no BRIDGE joins an ISLET.");
         for (int islet = 0; islet < 2; islet++) {
             due("one minute, joined", x.cut(islet, 0, 1), 0);
             due("one minute, not", x.cut(islet, 1, 1), 1);
