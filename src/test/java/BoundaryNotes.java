@@ -238,6 +238,33 @@ public final class BoundaryNotes extends Asking {
         due("the OFFSET of the last", full.about(9, 5), 0);
     }
 
+    private static String allWays(NineBridges x) {
+        StringBuilder all = new StringBuilder().append(x.again()).append(' ').append(x.lost(0)).append(' ').append(x.worth(0, 1, 1));
+        for (int to = 0; to < 8; to++) {
+            for (int answer : new int[] {x.soonest(0, to, 5, 1, 1), x.last(0, to, 5, 90, 1, 1), x.cut(to, 5, 60), x.worst(0, to, 60, 1, 1),
+                x.mean(0, to, 60, 1, 1, 0), x.crowd(0, to, 5, 65, 1, 1), x.meeting(0, to, 5, 1, 1, 1), x.set(0, 0, to), x.stranded(0, 0, to)}) {
+                all.append(' ').append(answer);
+            }
+        }
+        return all.append(' ').append(x.digest()).toString();
+    }
+
+    private static void goneBridgesLeaveNoWay() {
+        sentence("(those that come since are gone by restore())");
+        String[] texts = {"a:b,2/1+0", "=b:c,1/1+0", "*c:da,2/2+1", "=d:e,1/1+0", "~e:fga,3/1+2", "f:g,1/1+1", "=g:h,1/1+0", "*h:a,1/3+3", "=a:d,1/1+0", "~a:hge,4/1+0"};
+        for (int kept = 0; kept <= 10; kept++) {
+            NineBridges x = new NineBridges();
+            for (int b = 0; b < kept; b++) add(x, texts[b]);
+            x.image();
+            String ahead = allWays(x);
+            for (int b = kept; b < 10; b++) add(x, texts[b]);
+            String all = allWays(x);
+            due("more BRIDGES than " + kept + " are other ways", kept == 10 || !all.equals(ahead) ? 1 : 0, 1);
+            x.restore();
+            due("the ways over " + kept + " BRIDGES", allWays(x).equals(ahead) ? 1 : 0, 1);
+        }
+    }
+
     private static void count() {
         sentence("How many: 0 BRIDGES, 1 whether FROST is (1, 0), 2 NOTES, 3 letters of THE PAGE, 4 BRIDGES that turn (are not FIXED). OUTSIDE.");
         NineBridges x = new NineBridges();
@@ -328,6 +355,7 @@ public final class BoundaryNotes extends Asking {
         worth();
         image();
         imageKeeps();
+        goneBridgesLeaveNoWay();
         count();
         digest();
         finish();
