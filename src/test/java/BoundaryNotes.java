@@ -126,6 +126,33 @@ public final class BoundaryNotes extends Asking {
         due("no way there", x.lost(0), 0);
     }
 
+    private static void lostByFarNotes() {
+        sentence("NOTES (6 at most): a CARRIER of PACE 1, WEIGHT 1 started at an ISLET in a minute and was at another one in a minute, as SOON as it could.");
+        String[] texts = {"~h:fgb,8/9+6", "~d:ace,9/9+1", "~b:hge,9/9+9"};
+        NineBridges x = inFrost(texts), y = inFrost(texts);
+        due("400 later", x.soonest(0, 5, 11, 1, 1), 411);
+        due("401 later", x.soonest(0, 5, 10, 1, 1), NONE);
+        x.note(0, 11, 5, 411);
+        y.note(0, 10, 5, 410);
+        for (int b = 0; b < 3; b++) {
+            due("400 later is a way, bridge " + b, x.lost(b) & 1, 1);
+            due("none is there a minute sooner, bridge " + b, y.lost(b) & 1, 0);
+            due("by each OFFSET that is less, bridge " + b, x.lost(b) & (2 << x.about(b, 5)) - 1, lostBySoonest(texts, b, 0, 11, 5, 411));
+            due("and of the other note, bridge " + b, y.lost(b) & (2 << y.about(b, 5)) - 1, lostBySoonest(texts, b, 0, 10, 5, 410));
+        }
+    }
+
+    /** The numbers up to the OFFSET itself, each tried as an OFFSET that is so much less. */
+    private static int lostBySoonest(String[] texts, int b, int from, int minute, int to, int there) {
+        NineBridges x = inFrost(texts);
+        int own = x.about(b, 5), bits = 0;
+        for (int d = 0; d <= own; d++) {
+            x.offset(b, own - d);
+            if (x.soonest(from, to, minute, 1, 1) == there) bits |= 1 << d;
+        }
+        return bits;
+    }
+
     private static void worth() {
         sentence("WORTH. UNKNOWN; OUTSIDE: pace, weight.");
         NineBridges x = with("=a:b,1/1+0w5", "c:d,8/1+0", "=e:f,1/1+0", "=e:f,1/1+0");
@@ -352,6 +379,7 @@ public final class BoundaryNotes extends Asking {
         lostArguments();
         lostMinutes();
         lostByNotes();
+        lostByFarNotes();
         worth();
         image();
         imageKeeps();

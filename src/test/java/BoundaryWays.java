@@ -22,6 +22,21 @@ public final class BoundaryWays extends Asking {
         return inFrost("~d:cfg,9/9+2", "~g:dfa,9/9+0", "~e:hbc,9/7+" + v);
     }
 
+    /** By PACE 1 from a to b the longest of 60 starts is 402 by the OFFSETS 0 to 8 of the first one, 401 by its OFFSET 9. */
+    private static NineBridges waits401() {
+        return inFrost("~g:fb,6/8+3", "~e:adh,9/9+0", "~f:bgc,8/9+6", "~h:edc,9/9+8");
+    }
+
+    /** By PACE 1 from a to b the longest of 60 starts is 402 by the OFFSETS 0 to 7 of the first one, 401 by 8, 400 by 9. */
+    private static NineBridges waits400() {
+        return inFrost("~g:bf,8/9+2", "~e:adh,9/9+1", "~f:bgc,8/9+7", "~h:edc,9/9+9");
+    }
+
+    /** By PACE 1 from a to b the longest of 60 starts is 403 by the OFFSET 0 of the first one, 195 and v by each other v. */
+    private static NineBridges waits403Once() {
+        return inFrost("~e:adh,9/9+7", "~f:bgc,8/9+5", "~h:edc,9/9+8");
+    }
+
     private static void soonest() {
         sentence("SOONEST; NONE. UNKNOWN: from, to; OUTSIDE.");
         NineBridges x = with(CHAIN);
@@ -269,6 +284,35 @@ public final class BoundaryWays extends Asking {
         due("of 1 and 6 in a ROUND of 5", with("a:b,1/9+2", "b:c,1/4+0").set(1, 0, 2), 1);
     }
 
+    /** The longest way of 60 starts by PACE 1, however long it is: LAST knows no 400 minutes. */
+    private static int longestByLast(NineBridges x, int from, int to) {
+        int longest = 0;
+        for (int t = 0; t < 60; t++) {
+            int by = t;
+            while (by < 999 && x.last(from, to, t, by, 1, 1) == NONE) by++;
+            longest = Math.max(longest, by - t);
+        }
+        return longest;
+    }
+
+    private static void longestAre(NineBridges x, int... want) {
+        for (int v = 0; v <= 9; v++) {
+            x.offset(0, v);
+            due("the longest by OFFSET " + v, longestByLast(x, 0, 1), want[v]);
+            due("WORST by OFFSET " + v, x.worst(0, 1, 60, 1, 1), want[v] > 400 ? NONE : want[v]);
+        }
+    }
+
+    private static void setByFarWays() {
+        sentence("SET: the OFFSET (0 to 9) of a BRIDGE by which WORST of 60 minutes is least, of like ones the least (NONE counts as 1000).");
+        longestAre(waits401(), 402, 402, 402, 402, 402, 402, 402, 402, 402, 401);
+        longestAre(waits400(), 402, 402, 402, 402, 402, 402, 402, 402, 401, 400);
+        longestAre(waits403Once(), 403, 196, 197, 198, 199, 200, 201, 202, 203, 204);
+        due("401 is NONE, as 402 is: all alike", waits401().set(0, 0, 1), 0);
+        due("400 is none such: it is the least", waits400().set(0, 0, 1), 9);
+        due("NONE is more than each other one", waits403Once().set(0, 0, 1), 1);
+    }
+
     private static void crowd() {
         sentence("CROWD. UNKNOWN; OUTSIDE: minute, by (minute to 60 more), pace, weight; STATE: from and to are the same.");
         NineBridges x = with(CHAIN);
@@ -405,6 +449,7 @@ public final class BoundaryWays extends Asking {
         worst();
         mean();
         set();
+        setByFarWays();
         crowd();
         crowdsThatCome();
         stranded();
