@@ -361,6 +361,10 @@ public final class BoundaryWays extends Asking {
         due("a STAND of 9 by PACE 9", with("a:b,9/1+0").crowd(0, 1, 0, 60, 9, 1), 6);
         due("a STAND of 8 by PACE 9", with("a:b,8/1+0").crowd(0, 1, 0, 60, 9, 1), 0);
         due("all wait for the one way on", with("a:b,5/9+0", "b:c,1/4+1").crowd(0, 2, 0, 15, 1, 1), 3);
+        // from a in 1, 2, 3, 6, 7, 8, so at e in 3, 4, 5, 8, 9, 10; from there on in 3, 5, 6 and 9
+        NineBridges late = with("=d:e,3/3+9", "e:c,3/1+3", "d:a,3/2+9");
+        due("each minute is for one alone", late.crowd(0, 2, 0, 10, 1, 1), 4);
+        due("the last one is a minute late", late.crowd(0, 2, 0, 9, 1, 1), 3);
     }
 
     private static void stranded() {
